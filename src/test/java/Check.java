@@ -4,6 +4,7 @@ final class Check {
 
     private static int looked = 0;
     private static int wrong = 0;
+    private static String about = "";
 
     private Check() {
     }
@@ -13,9 +14,18 @@ final class Check {
         if (got != want) {
             wrong++;
             if (wrong <= 40) {
-                System.out.println(what + " answered " + got + ", due is " + want);
+                System.out.println(about + what + " answered " + got + ", due is " + want);
             }
         }
+    }
+
+    static int looked() {
+        return looked;
+    }
+
+    /** What stands ahead of each wrong answer from here on. */
+    static void about(String text) {
+        about = text;
     }
 
     static void finish() {
