@@ -123,6 +123,12 @@ final class DeedSentences {
         Check.due("cart -1", t.cart(-1, 0), Check.UNKNOWN);
         Check.due("cart 4, the last", t.cart(4, 1), 5);
         Check.due("cart 5", t.cart(5, 0), Check.UNKNOWN);
+        t = Check.on("r60,60;w0;c0 1 1;c0 1 2;");
+        t.drive(1);
+        t.lay(0, 60);
+        t.drive(0);
+        Check.due("mayor of the first cell", t.cart(1, 5), 0);
+        Check.due("mayor of the last cell", t.cart(0, 5), 1);
     }
 
     private static void sink() {

@@ -18,6 +18,7 @@ final class TextSentences {
         untoldWeather();
         weatherOnce();
         carts();
+        mostOfAll();
         numbersOfCarts();
         figures();
         words();
@@ -195,6 +196,32 @@ final class TextSentences {
             Check.due("none behind the last", t.cart(count, 0), Check.UNKNOWN);
         }
         due("r0,0;" + CART.repeat(9), -13, 61);
+    }
+
+    private static void mostOfAll() {
+        Sentence.says("8 CARTS at most");
+        StuckTowns t = stands("r60" + ",60".repeat(19) + ";w9" + ",9".repeat(11) + ";" + CART.repeat(8), 20);
+        for (int x = 0; x < 20; x++) {
+            Check.due("the towns so far", t.told(6), (1 << x) - 1);
+            Check.due("where it sticks", t.drive(7), x);
+            Check.due("mayor", t.cart(7, 5), x);
+            Check.due("the longest way", t.told(10), 19 - x);
+            Check.due("how far", t.told(9), 19 - x);
+            t.pull(7);
+            t.lay(x, 60);
+        }
+        Check.due("gone", t.drive(7), Check.NONE);
+        int[] want = {20, 8, 0, 0, 9, 0, (1 << 20) - 1, 0, Check.NONE, 0, 0, 0, 0, 0, 0, 16};
+        for (int what = 0; what <= 15; what++) {
+            Check.due("told " + what, t.told(what), want[what]);
+        }
+        Check.due("mayor of none of twenty", t.cart(7, 5), Check.NONE);
+        Check.due("twenty of one name", t.said(0), 20);
+        Check.due("no place", t.place(1), Check.NONE);
+        Check.due("no gravel for any of eight", t.gravelForAll(255), 0);
+        Check.due("the last five found none", t.order(248, 0), 0);
+        Check.due("all rains fit", t.rains(0), 61);
+        Check.due("the first of eight is sent", t.send(), 0);
     }
 
     private static void numbersOfCarts() {

@@ -280,6 +280,16 @@ final class TriedSentences {
         Check.due("those stuck now, too", t.told(8), 2);
         t = Check.on("r0,0;");
         Check.due("no carts", t.told(8), Check.NONE);
+        t = Check.on("r0,0,30;w30,0;c0 30 0;c0 29 0;c0 28 0;");
+        Check.due("one at 0, two at 2", t.told(8), 2);
+        t.day(1);
+        Check.due("one at 2, the day being dry", t.told(8), 2);
+        t.load(0, 29);
+        Check.due("none would any more", t.told(8), Check.NONE);
+        t.day(1);
+        t.load(1, 30);
+        t.load(2, 31);
+        Check.due("two at 0 now", t.told(8), 0);
     }
 
     private static void order() {
@@ -448,6 +458,9 @@ final class TriedSentences {
         Sentence.says("BIGGEST: the CELL of the TOWN with most FOLK; of like ones the least; NONE.");
         StuckTowns t = Check.on("r60,60,60;w0;c0 1 0;c0 1 1;c0 1 2;");
         Check.due("no town", t.told(11), Check.NONE);
+        t.drive(0);
+        Check.due("the first cell", t.told(11), 0);
+        t.undo();
         t.lay(0, 60);
         t.drive(0);
         Check.due("one", t.told(11), 1);

@@ -14,7 +14,6 @@ public final class TriedTest {
         place();
         said();
         dry();
-        nothingChanges();
         Check.finish();
     }
 
@@ -268,28 +267,5 @@ public final class TriedTest {
             odds = odds.multiply(java.math.BigInteger.valueOf(q)).divide(java.math.BigInteger.valueOf(100));
         }
         return odds.intValueExact();
-    }
-
-    private static void nothingChanges() {
-        StuckTowns t = Check.on(ROAD);
-        t.drive(3);
-        t.storm(31);
-        t.hear(1, 3);
-        t.seed(123);
-        String before = Check.seen(t);
-        t.stops(0, 50);
-        t.soonest(0, 4);
-        t.loads(0, 3, 2);
-        t.gravelTo(0, 4);
-        t.gravelForAll(31);
-        t.order(7, 1);
-        t.place(1);
-        t.said(3);
-        t.dry(4, 4);
-        t.rains(1);
-        t.send();
-        t.judge();
-        Check.same("nothing changes by what is tried", Check.seen(t), before);
-        Check.due("nor the seed", t.seed(0), 123);
     }
 }
