@@ -456,19 +456,25 @@ final class DeedSentences {
         Check.same("as ahead of " + what, Check.seen(t), before);
     }
 
-    private static void undoOfEach() {
-        Sentence.says("UNDONE: the latest of drive(), pull(), day(), lay(), load(), storm(), raze(), drift() that was not refused");
+    private static StuckTowns readyToUndo() {
         StuckTowns t = Check.on("r60,0;w7,8;c0 1 4;c3 9 5;");
         t.drive(1);
         t.storm(33);
         t.lay(1, 2);
         t.keep(0);
+        return t;
+    }
+
+    private static void undoOfEach() {
+        Sentence.says("UNDONE: the latest of drive(), pull(), day(), lay(), load(), storm(), raze(), drift() that was not refused");
+        StuckTowns t = readyToUndo();
         String before = Check.seen(t);
         undone(t, "drive", t.drive(0), 0, before);
         undone(t, "pull", t.pull(1), 0, before);
         undone(t, "day", t.day(60), 60, before);
         undone(t, "lay", t.lay(1, -1), 1, before);
         undone(t, "lay of nothing", t.lay(1, 0), 2, before);
+        t = readyToUndo();
         undone(t, "load", t.load(0, 60), 1, before);
         undone(t, "storm", t.storm(33), 33, before);
         undone(t, "raze", t.raze(0), 1, before);

@@ -308,35 +308,44 @@ public final class DoneTest {
         Check.same("undone " + what, Check.seen(t), before);
     }
 
-    private static void undoEach() {
+    /** Something of each kind is there to be lost; each call of it begins a run of its own (512 calls at most). */
+    private static StuckTowns readyToUndo() {
         StuckTowns t = Check.on(ROAD);
-        Check.due("nothing to undo", t.undo(), Check.NOT);
         t.drive(1);
         t.storm(33);
         t.lay(3, 2);
-        String before = Check.seen(t);
-        t.drive(2);
-        undone(t, before, "drive");
-        t.drive(0);
-        undone(t, before, "drive that founds");
-        t.pull(1);
-        undone(t, before, "pull");
-        t.day(7);
-        undone(t, before, "day");
-        t.lay(3, -60);
-        undone(t, before, "lay");
-        t.load(1, 60);
-        undone(t, before, "load");
-        t.storm(1);
-        undone(t, before, "storm");
-        t.raze(3);
-        undone(t, before, "raze");
-        t.seed(9);
-        t.drift(60);
-        int seed = t.seed(0);
-        t.seed(seed);
-        undone(t, before, "drift");
-        Check.due("the seed stays as drawn", t.seed(0), seed);
+        return t;
+    }
+
+    private static int deed(StuckTowns t, int kind) {
+        switch (kind) {
+            case 0: return t.drive(2);
+            case 1: return t.drive(0);
+            case 2: return t.pull(1);
+            case 3: return t.day(7);
+            case 4: return t.lay(3, -60);
+            case 5: return t.load(1, 60);
+            case 6: return t.storm(1);
+            case 7: return t.raze(3);
+            default: return t.drift(60);
+        }
+    }
+
+    private static void undoEach() {
+        Check.due("nothing to undo", Check.on(ROAD).undo(), Check.NOT);
+        String[] names = {"drive", "drive that founds", "pull", "day", "lay", "load", "storm", "raze", "drift"};
+        int[] answers = {3, 0, 3, 7, 0, 40, 33, 1};
+        for (int kind = 0; kind < names.length; kind++) {
+            StuckTowns t = readyToUndo();
+            t.seed(9);
+            String before = Check.seen(t);
+            int answer = deed(t, kind);
+            Check.due(names[kind], answer, kind < answers.length ? answers[kind] : t.told(12));
+            int seed = t.seed(0);
+            t.seed(seed);
+            undone(t, before, names[kind]);
+            Check.due("the seed stays as drawn", t.seed(0), seed);
+        }
     }
 
     private static void undoAtMost() {

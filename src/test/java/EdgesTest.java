@@ -83,6 +83,7 @@ public final class EdgesTest {
         Check.due("carts", t.told(1), 8);
         Check.due("wet", t.told(4), 30);
         text.setCharAt(239, 'c');
+        t = new StuckTowns();
         Check.feed(t, text.toString());
         Check.due("a ninth as the last letter", t.road(), -13);
         Check.due("its place", t.fault(), 239);
@@ -90,6 +91,7 @@ public final class EdgesTest {
         Check.feed(t, text.toString());
         Check.due("a figure as the last letter", t.road(), -11);
         Check.due("its place", t.fault(), 239);
+        t = new StuckTowns();
         String cut = "r1,2;w" + "0".repeat(234);
         Check.feed(t, cut);
         Check.due("a number up to the end", t.road(), -12);
@@ -98,6 +100,7 @@ public final class EdgesTest {
         Check.feed(t, cut);
         Check.due("no end", t.road(), -11);
         Check.due("its place", t.fault(), 240);
+        t = Check.on("r1,2;");
         Check.feed(t, " ".repeat(240));
         Check.due("blanks alone", t.road(), 0);
         Check.due("no fault", t.fault(), Check.NONE);

@@ -127,7 +127,7 @@ public final class LanguageTest {
         beans.getCurrentThreadAllocatedBytes();
         long before = beans.getCurrentThreadAllocatedBytes();
         long sum = 0;
-        for (int k = 0; k < 10; k++) {
+        for (int k = 0; k < 8; k++) {
             sum += allCalls(t);
         }
         long made = beans.getCurrentThreadAllocatedBytes() - before;

@@ -3,13 +3,15 @@ import java.util.Random;
 /** Promises 1 to 35: runs of calls by chance (the same each time), class and model side by side. */
 public final class ModelTest {
     private static final int RUNS = 3000;
-    private static final int CALLS = 400;
+    private static final int CALLS = 512;
+    private static final int LONGEST_TELLING = 242;
 
     private final Random chance;
     private final StuckTowns towns = new StuckTowns();
     private final Model model = new Model();
     private final StringBuilder log = new StringBuilder();
     private boolean differed = false;
+    private int called = 0;
 
     private ModelTest(long run) {
         chance = new Random(run);
@@ -29,7 +31,7 @@ public final class ModelTest {
         if (chance.nextInt(20) > 0) {
             tell(goodText());
         }
-        for (int k = 0; k < CALLS && !differed; k++) {
+        while (called + 2 <= CALLS && !differed) {
             call(run);
         }
     }
@@ -41,6 +43,7 @@ public final class ModelTest {
     }
 
     private void tell(String text) {
+        called += text.length() + 1;
         for (int k = 0; k < text.length(); k++) {
             Check.due("feed", towns.feed(text.charAt(k)), model.feed(text.charAt(k)));
         }
@@ -125,6 +128,7 @@ public final class ModelTest {
     }
 
     private void due(int run, String call, int got, int want) {
+        called++;
         log.append(call).append(" -> ").append(want).append('\n');
         if (got != want && !differed) {
             System.out.println("run " + run + ":\n" + log);
@@ -133,6 +137,7 @@ public final class ModelTest {
         Check.due("run " + run + ": " + call, got, want);
     }
 
+    /** At most two calls, but for a text that is told. */
     private void call(int run) {
         int kind = chance.nextInt(60);
         if (kind < 22) {
@@ -141,7 +146,7 @@ public final class ModelTest {
             act(run, kind);
         } else if (kind < 57) {
             hearAndKeep(run, kind);
-        } else if (kind == 57 && chance.nextInt(10) == 0) {
+        } else if (kind == 57 && chance.nextInt(10) == 0 && called + LONGEST_TELLING < CALLS) {
             tell(spoilt(goodText()));
         } else if (kind == 58) {
             int letter = some(256);
